@@ -235,6 +235,9 @@ public final class PromisesTest {
         checks.due(name + ": used", x.used(), 9 + want.length());
         checks.due(name + ": the pile", Checks.emptied(x), "|" + want + "|below|");
         checks.due(name + ": a variable", Checks.variable(x, 5), "kept");
+        Checks.put(x, text);
+        checks.due(name + " of the only string", call.applyAsInt(x), want.length());
+        checks.due(name + ": the only string", Checks.emptied(x), "|" + want + "|");
     }
 
     private static void promise9Left() {
@@ -304,6 +307,12 @@ public final class PromisesTest {
         checks.due("repeat: the pile", Checks.emptied(x),
                 "|" + "A".repeat(40) + "||\u0000\u0000|\u00ff\u00ff\u00ff|");
 
+        BasicStrings line = Checks.made(o -> Checks.put(o, "ab", "ab", "ab"));
+        checks.due("repeat(40, 65) as the fourth", line.repeat(40, 65), 40);
+        line.drop();
+        line.literal();
+        checks.due("repeat: the line stays", Checks.emptied(line), "|ab|ab|ab|ab|");
+
         BasicStrings brim = Checks.made(o -> Checks.use(o, 60));
         checks.due("repeat up to 100", brim.repeat(40, 1), 40);
         checks.due("repeat of nothing with a full store", brim.repeat(0, 1), 0);
@@ -327,7 +336,11 @@ public final class PromisesTest {
 
     private static void compared(String first, String second, int want) {
         BasicStrings x = new BasicStrings();
-        Checks.put(x, "below", first, second);
+        // What lay on the pile before must not be compared.
+        Checks.put(x, "below", "z".repeat(20), "a".repeat(20));
+        x.drop();
+        x.drop();
+        Checks.put(x, first, second);
         checks.due("compare of " + first + " and " + second, x.compare(), want);
         checks.due("compare: used", x.used(), 5);
         checks.due("compare: the pile", Checks.emptied(x), "|below|");
