@@ -278,9 +278,12 @@ public final class EdgesOfPuttingTest {
     private static void repeatAnswersTheNumber() {
         checks.sentence("Promise 12", "Otherwise n.");
         for (int n = 0; n <= 40; n++) {
-            BasicStrings x = Checks.made(Checks.state(1, 60));
+            BasicStrings x = new BasicStrings();
+            // What lies beside the new string is as long as can be, and must stay whole.
+            Checks.put(x, "", "", FORTY);
             checks.due("repeat", x.repeat(n, 'r'), n);
-            checks.due("the top", Checks.top(x), "r".repeat(n));
+            checks.due("the pile", Checks.emptied(x), "|" + "r".repeat(n) + "|" + FORTY + "|||");
+            checks.due("the line", Checks.line(x), FORTY);
         }
     }
 }

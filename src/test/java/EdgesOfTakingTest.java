@@ -305,7 +305,11 @@ public final class EdgesOfTakingTest {
 
     private static void compared(String first, String second, int want) {
         BasicStrings x = Checks.made(o -> Checks.set(o, 5, "kept"));
-        Checks.put(x, "below", first, second);
+        // What lay on the pile before must not be compared.
+        Checks.put(x, "below", "\u00ff".repeat(40), "\u00ff".repeat(40));
+        x.drop();
+        x.drop();
+        Checks.put(x, first, second);
         checks.due("compare() of " + first + " and " + second, x.compare(), want);
         checks.due("variable 5", Checks.variable(x, 5), "kept");
         checks.due("used()", x.used(), 9);

@@ -9,6 +9,7 @@ public final class EdgesOfTermsTest {
 
     public static void main(String[] args) {
         fullExactlyWhenAllIsNeeded();
+        whatWasThereTakesNoRoom();
         whatIsTakenAwayMakesRoom();
         theLastOfTheCalls();
         lengthsOfStrings();
@@ -33,7 +34,10 @@ public final class EdgesOfTermsTest {
         checks.due("repeat(1, 7) with 99 used", x.repeat(1, 7), 1);
         checks.due("used", x.used(), 100);
         checks.refused("repeat(1, 7) with 100 used", Checks.FULL, Checks.state(2, 100), o -> o.repeat(1, 7));
-        // The store does not wear out: what has been there before takes no room.
+    }
+
+    private static void whatWasThereTakesNoRoom() {
+        checks.sentence("What it is", "when the strings that are there need it all");
         BasicStrings worn = Checks.made(o -> Checks.use(o, 60));
         for (int k = 0; k < 200; k++) {
             checks.due("repeat(40, 7), time " + k, worn.repeat(40, 7), 40);
@@ -93,8 +97,8 @@ public final class EdgesOfTermsTest {
                 checks.due("key, as call " + k, typed.key(k % 256), k % 41);
             }
         }
-        checks.due("literal(), as call 511", typed.literal(), 510 % 41);
-        checks.due("topAt(1), as call 512", typed.topAt(510 % 41), 510 % 256);
+        checks.due("literal(), as call 511", typed.literal(), 18);
+        checks.due("topAt(18), as call 512", typed.topAt(18), 510 % 256);
         BasicStrings swapped = new BasicStrings();
         swapped.repeat(40, 1);
         swapped.let(0);
@@ -108,7 +112,7 @@ public final class EdgesOfTermsTest {
     private static void lengthsOfStrings() {
         checks.sentence("Terms", "A STRING is a list of 0 to 40 characters");
         for (int v = 0; v < 6; v++) {
-            for (String text : new String[] {"", "a", FORTY.substring(1), FORTY, ""}) {
+            for (String text : new String[] {"", "a", FORTY.substring(1), FORTY}) {
                 BasicStrings x = new BasicStrings();
                 Checks.set(x, v, "before");
                 Checks.set(x, v, text);
@@ -244,7 +248,7 @@ public final class EdgesOfTermsTest {
                 o -> Checks.put(o, "below", Checks.some(first), Checks.some(50, second)), BasicStrings::join);
     }
 
-    /** Each of the calls that put a string on the pile, with so many characters to put and so many used. */
+    /** So many characters used, and so many of them in variable 5, as many as are on the line. */
     private static Consumer<BasicStrings> toPut(int count, int used) {
         return o -> {
             Checks.set(o, 5, Checks.some(count));

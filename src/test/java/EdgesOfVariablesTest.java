@@ -234,20 +234,27 @@ public final class EdgesOfVariablesTest {
         checks.sentence("Promise 16", "otherwise 0");
         for (int u = 0; u < 6; u++) {
             for (int v = 0; v < 6; v++) {
-                BasicStrings x = Checks.made(Checks.state(4, 100));
-                String[] want = new String[6];
-                for (int k = 0; k < 6; k++) {
-                    want[k] = Checks.variable(x, k);
-                }
-                String kept = want[u];
-                want[u] = want[v];
-                want[v] = kept;
-                checks.due("swap(" + u + ", " + v + ")", x.swap(u, v), 0);
-                for (int k = 0; k < 6; k++) {
-                    checks.due("variable " + k, Checks.variable(x, k), want[k]);
-                }
-                checks.due("used()", x.used(), 100);
+                swapped(u, v);
             }
         }
+    }
+
+    /** The swap of strings of different lengths, the shortest and the longest among them, in a full store. */
+    private static void swapped(int u, int v) {
+        int[] lengths = {40, 0, 1, 39, 7, 13};
+        String[] want = new String[6];
+        BasicStrings x = new BasicStrings();
+        for (int k = 0; k < 6; k++) {
+            want[k] = Checks.some(20 * k, lengths[k]);
+            Checks.set(x, k, want[k]);
+        }
+        String kept = want[u];
+        want[u] = want[v];
+        want[v] = kept;
+        checks.due("swap(" + u + ", " + v + ")", x.swap(u, v), 0);
+        for (int k = 0; k < 6; k++) {
+            checks.due("variable " + k, Checks.variable(x, k), want[k]);
+        }
+        checks.due("used()", x.used(), 100);
     }
 }
