@@ -1,7 +1,5 @@
-import java.io.IOException;
-import java.io.UncheckedIOException;
-import java.nio.file.Files;
-import java.nio.file.Path;
+import java.util.ArrayList;
+import java.util.List;
 import java.util.function.Consumer;
 import java.util.function.ToIntBiFunction;
 import java.util.function.ToIntFunction;
@@ -21,16 +19,23 @@ final class Checks {
     static final int[] NO_BYTES = {-1, 256, 257, -255, -256, 65536, LEAST, LEAST + 1, GREATEST};
     static final int[] NO_PLACES = {0, 256, -1, 257, -255, 65537, LEAST, LEAST + 1, GREATEST};
 
-    private static final Path DOCUMENT = Path.of("../shared/DOC.md");
+    /** The words of the document that a test stood for, each as its section and itself. */
+    private static final List<String[]> QUOTES = new ArrayList<>();
 
     private int wrong = 0;
     private String sentence = "";
 
     /** Begins the test of these words, which must stand in that section of the document. */
     void sentence(String section, String words) {
+        String text = Document.section(section);
         sentence = "";
-        due(section + " says \"" + words + "\"", textOf(section).contains(words), true);
+        due(section + " says \"" + words + "\"", text.contains(words), true);
+        QUOTES.add(new String[] {text, words});
         sentence = section + ", \"" + words + "\": ";
+    }
+
+    static List<String[]> quotes() {
+        return QUOTES;
     }
 
     void due(String call, Object got, Object want) {
@@ -186,20 +191,6 @@ final class Checks {
         }
         text.append(" pile ").append(emptied(x));
         return text.append(" line ").append(line(x)).toString();
-    }
-
-    /** The text under the heading that is this or begins with it and a colon, with its lines as one. */
-    private static String textOf(String section) {
-        try {
-            for (String part : Files.readString(DOCUMENT).split("(?m)^## ")) {
-                if (part.startsWith(section + "\n") || part.startsWith(section + ":")) {
-                    return part.replaceAll("\\s+", " ");
-                }
-            }
-            return "";
-        } catch (IOException e) {
-            throw new UncheckedIOException(e);
-        }
     }
 
     private static String shown(Object answer) {

@@ -7,6 +7,11 @@ public final class EdgesOfAskingTest {
     private static final Checks checks = new Checks();
 
     public static void main(String[] args) {
+        sentences();
+        checks.end();
+    }
+
+    static void sentences() {
         lengthOfAVariable();
         lengthOutOfRange();
         atTheFirstPlace();
@@ -17,7 +22,6 @@ public final class EdgesOfAskingTest {
         topAtTheFirstPlace();
         topAtNoPlace();
         used();
-        checks.end();
     }
 
     private static void lengthOfAVariable() {

@@ -9,6 +9,11 @@ public final class EdgesOfPuttingTest {
     private static final Checks checks = new Checks();
 
     public static void main(String[] args) {
+        sentences();
+        checks.end();
+    }
+
+    static void sentences() {
         newObjectIsEmpty();
         newObjectHasNothingToTake();
         keyOutOfRange();
@@ -19,6 +24,7 @@ public final class EdgesOfPuttingTest {
         literalLeavesTheLine();
         literalWithFourStrings();
         literalAndTheStore();
+        literalOrder();
         literalAnswersTheLength();
         pushOutOfRange();
         pushWithFourStrings();
@@ -31,7 +37,6 @@ public final class EdgesOfPuttingTest {
         repeatAndTheStore();
         repeatOrder();
         repeatAnswersTheNumber();
-        checks.end();
     }
 
     private static void newObjectIsEmpty() {
@@ -162,6 +167,14 @@ public final class EdgesOfPuttingTest {
         empty.drop();
         empty.key(7);
         checks.due("literal() of one with 100 used", empty.literal(), Checks.FULL);
+    }
+
+    private static void literalOrder() {
+        checks.sentence("Promise 4", "Tested in this order: " + FOUR_STRINGS + "; " + THE_STORE + ".");
+        // Both answer FULL: that one comes before the other can't be seen, only that either is enough.
+        checks.refused("literal() with 4 and 96 used", Checks.FULL, Checks.state(4, 96), BasicStrings::literal);
+        checks.refused("literal() with 3 and 97 used", Checks.FULL, Checks.state(3, 97), BasicStrings::literal);
+        checks.refused("literal() with 4 and 97 used", Checks.FULL, Checks.state(4, 97), BasicStrings::literal);
     }
 
     private static void literalAnswersTheLength() {

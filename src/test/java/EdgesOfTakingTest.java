@@ -11,6 +11,11 @@ public final class EdgesOfTakingTest {
     private static final Checks checks = new Checks();
 
     public static void main(String[] args) {
+        sentences();
+        checks.end();
+    }
+
+    static void sentences() {
         letForgetsWhatWasHeld();
         letOutOfRange();
         letOfAnEmptyPile();
@@ -20,6 +25,7 @@ public final class EdgesOfTakingTest {
         dropAnswersTheLength();
         joinOfFewerThanTwo();
         joinTooLong();
+        joinOrder();
         joinLeavesUsed();
         joinAnswersTheLength();
         leftOfFewer();
@@ -39,7 +45,6 @@ public final class EdgesOfTakingTest {
         compareOfABeginning();
         compareWhereTheyDiffer();
         compareOfFewerThanTwo();
-        checks.end();
     }
 
     private static void letForgetsWhatWasHeld() {
@@ -136,6 +141,18 @@ public final class EdgesOfTakingTest {
         checks.refused("join() up to 41", Checks.LONG,
                 o -> Checks.put(o, "below", Checks.some(20), Checks.some(20, 21)), BasicStrings::join);
         checks.refused("join() up to 80", Checks.LONG, o -> Checks.put(o, "below", FORTY, FORTY), BasicStrings::join);
+    }
+
+    private static void joinOrder() {
+        checks.sentence("Promise 8", "Tested in this order: fewer than two answers TOO_FEW; LONG.");
+        checks.refused("join() of one of 40 after longer ones", Checks.TOO_FEW, o -> {
+            Checks.put(o, FORTY, FORTY);
+            o.drop();
+        }, BasicStrings::join);
+        checks.refused("join() of none after longer ones", Checks.TOO_FEW, o -> {
+            Checks.put(o, FORTY, FORTY);
+            o.compare();
+        }, BasicStrings::join);
     }
 
     private static void joinLeavesUsed() {
@@ -326,7 +343,8 @@ public final class EdgesOfTakingTest {
     }
 
     private static void compareOfABeginning() {
-        checks.sentence("Promise 13", "the one that is a beginning of the other comes first");
+        checks.sentence("Promise 13",
+                "where of two different strings the one that is a beginning of the other comes first");
         for (int count : new int[] {0, 1, 38, 39}) {
             compared(Checks.some(count), FORTY, 1);
             compared(FORTY, Checks.some(count), 2);

@@ -8,10 +8,16 @@ public final class EdgesOfTermsTest {
     private static final Checks checks = new Checks();
 
     public static void main(String[] args) {
+        sentences();
+        checks.end();
+    }
+
+    static void sentences() {
         fullExactlyWhenAllIsNeeded();
         whatWasThereTakesNoRoom();
         whatIsTakenAwayMakesRoom();
         theLastOfTheCalls();
+        callsAfterTheLast();
         lengthsOfStrings();
         characters();
         variables();
@@ -24,7 +30,6 @@ public final class EdgesOfTermsTest {
         noCallThrows();
         refusedCallsChangeNothing();
         theCodes();
-        checks.end();
     }
 
     private static void fullExactlyWhenAllIsNeeded() {
@@ -109,6 +114,29 @@ public final class EdgesOfTermsTest {
         checks.due("at(0, 40), as call 512", swapped.at(0, 40), 1);
     }
 
+    private static void callsAfterTheLast() {
+        checks.sentence("What it is", "after it has been made; what later calls answer is free.");
+        BasicStrings x = Checks.made(Checks.state(3, 90));
+        for (int k = 0; k < 512; k++) {
+            x.swap(0, 5);
+        }
+        // No answer is asked for, but no rule of LANGUAGE.md ends with the 512th call: none may throw.
+        for (Call call : Call.ALL) {
+            for (int number : new int[] {Checks.LEAST, -1, 0, 1, 5, 6, 40, 41, 255, 256, Checks.GREATEST}) {
+                doesNotThrow("call after the 512th: " + call.with(number, number),
+                        () -> call.program().answer(x, number, number));
+            }
+        }
+    }
+
+    private static void doesNotThrow(String name, Runnable calls) {
+        try {
+            calls.run();
+        } catch (Throwable thrown) {
+            checks.due(name, thrown, "no throw");
+        }
+    }
+
     private static void lengthsOfStrings() {
         checks.sentence("Terms", "A STRING is a list of 0 to 40 characters");
         for (int v = 0; v < 6; v++) {
@@ -152,7 +180,7 @@ public final class EdgesOfTermsTest {
     }
 
     private static void variables() {
-        checks.sentence("Terms", "There are VARIABLES 0 to 5, each holding a string");
+        checks.sentence("Terms", "There are VARIABLES 0 to 5, each holding a string, and");
         BasicStrings x = new BasicStrings();
         for (int v = 0; v <= 5; v++) {
             Checks.put(x, Checks.some(50 * v, 16));
@@ -303,15 +331,11 @@ public final class EdgesOfTermsTest {
 
     private static void noCallThrows() {
         checks.sentence("Terms", "No call ever throws.");
-        Grid.each((state, call, a, b) -> {
-            try {
-                BasicStrings x = Grid.program(state);
-                call.program().answer(x, a, b);
-                Checks.dump(x);
-            } catch (Throwable thrown) {
-                checks.due(state + " " + call.with(a, b), thrown, "no throw");
-            }
-        });
+        Grid.each((state, call, a, b) -> doesNotThrow(state + " " + call.with(a, b), () -> {
+            BasicStrings x = Grid.program(state);
+            call.program().answer(x, a, b);
+            Checks.dump(x);
+        }));
     }
 
     private static void refusedCallsChangeNothing() {
@@ -328,7 +352,7 @@ public final class EdgesOfTermsTest {
     }
 
     private static void theCodes() {
-        checks.sentence("Terms", "`BAD_ARG = -1`: An argument is out of its range.");
+        checks.sentence("Terms", "The constants: `BAD_ARG = -1`: An argument is out of its range.");
         checks.due("BAD_ARG", BasicStrings.BAD_ARG, -1);
         checks.due("push(6)", new BasicStrings().push(6), -1);
         checks.sentence("Terms", "`FULL = -2`: The store is full, or a limit is reached.");

@@ -6,6 +6,11 @@ public final class EdgesOfVariablesTest {
     private static final Checks checks = new Checks();
 
     public static void main(String[] args) {
+        sentences();
+        checks.end();
+    }
+
+    static void sentences() {
         findTheLeastPlace();
         findNone();
         findAnEmptyString();
@@ -20,7 +25,6 @@ public final class EdgesOfVariablesTest {
         setMidChangesNothingElse();
         swapOutOfRange();
         swapAnswersZero();
-        checks.end();
     }
 
     /** The answer for variables at both ends of their range, and that nothing changes by it. */

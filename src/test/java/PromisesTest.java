@@ -1,6 +1,6 @@
 import java.util.function.ToIntFunction;
 
-/** Each promise of the document with ordinary inputs; its limits are in the tests of edges. */
+/** What the document says each call does, with ordinary inputs; the limits are in the tests of edges. */
 public final class PromisesTest {
     // The least and the greatest character among them.
     private static final String ODD = "\u0000\u0001\u007f\u0080\u00fe\u00ff";
@@ -8,6 +8,12 @@ public final class PromisesTest {
     private static final Checks checks = new Checks();
 
     public static void main(String[] args) {
+        sentences();
+        checks.end();
+    }
+
+    static void sentences() {
+        whatItIs();
         promise1NewObject();
         promise2Key();
         promise3NewLine();
@@ -30,10 +36,48 @@ public final class PromisesTest {
         promise20TopLength();
         promise21TopAt();
         promise22Used();
-        checks.end();
+    }
+
+    /** A few lines as one would have written them in the old language. */
+    private static void whatItIs() {
+        checks.sentence("What it is", "Strings as in an old line-numbered language: variables, a pile of strings that "
+                + "expressions work on, and a store of a hundred characters");
+        BasicStrings x = new BasicStrings();
+        // 10 LET A$ = "BASIC"
+        Checks.put(x, "BASIC");
+        checks.due("line 10", x.let(0), 5);
+        // 20 LET B$ = LEFT$(A$, 2) + (MID$(A$, 3, 1) + RIGHT$(A$, 2))
+        x.push(0);
+        x.left(2);
+        x.push(0);
+        x.mid(3, 1);
+        x.push(0);
+        x.right(2);
+        x.join();
+        x.join();
+        checks.due("line 20", x.let(1), 5);
+        checks.due("line 20: B$", Checks.variable(x, 1), "BASIC");
+        // 30 MID$(B$, 1) = STRING$(2, "*")
+        x.repeat(2, '*');
+        checks.due("line 30", x.setMid(1, 1), 2);
+        // 40 LET C$ = A$ + B$: SWAP B$, C$
+        x.push(0);
+        x.push(1);
+        x.join();
+        x.let(2);
+        checks.due("line 40", x.swap(1, 2), 0);
+        // 50 PRINT A$ < C$, INSTR(B$, C$), LEN(B$)
+        x.push(0);
+        x.push(2);
+        checks.due("line 50: the order", x.compare(), 2);
+        checks.due("line 50: the place", x.find(1, 2), 6);
+        checks.due("line 50: the length", x.length(1), 10);
+        checks.due("after line 50", Checks.dump(x),
+                "used 20 v0=BASIC v1=BASIC**SIC v2=**SIC v3= v4= v5= pile | line BASIC");
     }
 
     private static void promise1NewObject() {
+        checks.sentence("Promise 1", "All variables hold the empty string, the pile and the keyboard line are empty.");
         BasicStrings x = new BasicStrings();
         BasicStrings other = new BasicStrings();
         Checks.set(x, 3, "mine");
@@ -42,6 +86,7 @@ public final class PromisesTest {
     }
 
     private static void promise2Key() {
+        checks.sentence("Promise 2", "Appends character c to the keyboard line.");
         BasicStrings x = new BasicStrings();
         for (int k = 0; k < ODD.length(); k++) {
             checks.due("key", x.key(ODD.charAt(k)), k + 1);
@@ -50,6 +95,7 @@ public final class PromisesTest {
     }
 
     private static void promise3NewLine() {
+        checks.sentence("Promise 3", "Empties the keyboard line.");
         BasicStrings x = new BasicStrings();
         Checks.put(x, "before");
         x.newLine();
@@ -59,6 +105,7 @@ public final class PromisesTest {
     }
 
     private static void promise4Literal() {
+        checks.sentence("Promise 4", "Puts the keyboard line's characters as a string on the pile; the line stays.");
         BasicStrings x = new BasicStrings();
         Checks.type(x, ODD);
         checks.due("literal", x.literal(), 6);
@@ -69,6 +116,7 @@ public final class PromisesTest {
     }
 
     private static void promise5Push() {
+        checks.sentence("Promise 5", "Puts the string of variable v on the pile.");
         BasicStrings x = new BasicStrings();
         for (int v = 0; v < 6; v++) {
             Checks.set(x, v, ODD.substring(v));
@@ -91,6 +139,8 @@ public final class PromisesTest {
     }
 
     private static void promise6Let() {
+        checks.sentence("Promise 6", "Takes the top string off the pile and makes it the string of variable v; what "
+                + "the variable held is gone.");
         BasicStrings x = new BasicStrings();
         for (int v = 0; v < 6; v++) {
             Checks.put(x, "below", ODD.substring(v));
@@ -107,6 +157,7 @@ public final class PromisesTest {
     }
 
     private static void promise7Drop() {
+        checks.sentence("Promise 7", "Takes the top string off the pile.");
         BasicStrings x = new BasicStrings();
         Checks.put(x, "one", "seven", "three");
         checks.due("drop", x.drop(), 5);
@@ -115,6 +166,8 @@ public final class PromisesTest {
     }
 
     private static void promise8Join() {
+        checks.sentence("Promise 8", "Takes the top string Y and the one below it X off the pile and puts X followed "
+                + "by Y on.");
         BasicStrings x = new BasicStrings();
         Checks.put(x, "below", "left", ODD);
         checks.due("join", x.join(), 10);
@@ -139,24 +192,29 @@ public final class PromisesTest {
     }
 
     private static void promise9Left() {
+        checks.sentence("Promise 9", "The top string becomes its first n characters");
         cut("left(1)", "abcde", "a", o -> o.left(1));
         cut("left(3)", "abcde", "abc", o -> o.left(3));
         cut("left(4)", ODD, ODD.substring(0, 4), o -> o.left(4));
     }
 
     private static void promise10Right() {
+        checks.sentence("Promise 10", "The top string becomes its last n characters");
         cut("right(1)", "abcde", "e", o -> o.right(1));
         cut("right(3)", "abcde", "cde", o -> o.right(3));
         cut("right(4)", ODD, ODD.substring(2), o -> o.right(4));
     }
 
     private static void promise11Mid() {
+        checks.sentence("Promise 11", "The top string becomes its characters from number i on (1 is the first), n of "
+                + "them");
         cut("mid(1, 2)", "abcde", "ab", o -> o.mid(1, 2));
         cut("mid(2, 3)", "abcde", "bcd", o -> o.mid(2, 3));
         cut("mid(3, 2)", ODD, ODD.substring(2, 4), o -> o.mid(3, 2));
     }
 
     private static void promise12Repeat() {
+        checks.sentence("Promise 12", "Puts a string of n times character c on the pile.");
         BasicStrings x = Checks.made(o -> Checks.put(o, "ab"));
         checks.due("repeat(3, 255)", x.repeat(3, 255), 3);
         checks.due("repeat(2, 0)", x.repeat(2, 0), 2);
@@ -176,6 +234,8 @@ public final class PromisesTest {
     }
 
     private static void promise13Compare() {
+        checks.sentence("Promise 13", "Takes the top string Y and the one below it X off the pile; answers 0 if they "
+                + "are the same, 1 if X comes before Y and 2 if X comes after Y");
         compared("same", "same", 0);
         compared(ODD, ODD, 0);
         compared("abc", "abcd", 1);
@@ -197,6 +257,8 @@ public final class PromisesTest {
     }
 
     private static void promise14Find() {
+        checks.sentence("Promise 14", "The least i >= 1 such that the characters of variable u from number i on "
+                + "begin with those of variable v; 0 if there is none.");
         found("hello", "h", 1);
         found("hello", "l", 3);
         found("hello", "lo", 4);
@@ -226,6 +288,8 @@ public final class PromisesTest {
     }
 
     private static void promise15SetMid() {
+        checks.sentence("Promise 15", "The characters of variable v from number i on are replaced, one for one, by "
+                + "those of the top string");
         replaced("abcde", 1, "XY", "XYcde", 2);
         replaced("abcde", 2, "XY", "aXYde", 2);
         replaced("abcde", 3, "X", "abXde", 1);
@@ -234,6 +298,7 @@ public final class PromisesTest {
     }
 
     private static void promise16Swap() {
+        checks.sentence("Promise 16", "The strings of variables u and v change places.");
         BasicStrings x = new BasicStrings();
         Checks.set(x, 0, ODD);
         Checks.set(x, 5, "a".repeat(40));
@@ -251,6 +316,7 @@ public final class PromisesTest {
     }
 
     private static void promise17Length() {
+        checks.sentence("Promise 17", "The length of the string of variable v");
         BasicStrings x = new BasicStrings();
         for (int v = 0; v < 6; v++) {
             x.repeat(5 + v, 0);
@@ -262,6 +328,7 @@ public final class PromisesTest {
     }
 
     private static void promise18At() {
+        checks.sentence("Promise 18", "Character number i (1 is the first) of variable v");
         BasicStrings x = new BasicStrings();
         for (int v = 0; v < 6; v++) {
             Checks.set(x, v, "ab" + (char) (250 + v));
@@ -275,6 +342,7 @@ public final class PromisesTest {
     }
 
     private static void promise19Pile() {
+        checks.sentence("Promise 19", "The number of strings on the pile.");
         BasicStrings x = new BasicStrings();
         for (int k = 1; k <= 4; k++) {
             x.repeat(k % 2, 'a');
@@ -299,6 +367,7 @@ public final class PromisesTest {
     }
 
     private static void promise20TopLength() {
+        checks.sentence("Promise 20", "The length of the top string");
         BasicStrings x = new BasicStrings();
         Checks.put(x, "abc", "defgh");
         checks.due("topLength of 5", x.topLength(), 5);
@@ -307,6 +376,7 @@ public final class PromisesTest {
     }
 
     private static void promise21TopAt() {
+        checks.sentence("Promise 21", "Character number i (1 is the first) of the top string");
         BasicStrings x = new BasicStrings();
         Checks.put(x, "below", "ab\u00ff");
         checks.due("topAt(1)", x.topAt(1), (int) 'a');
@@ -316,6 +386,7 @@ public final class PromisesTest {
     }
 
     private static void promise22Used() {
+        checks.sentence("Promise 22", "USED.");
         BasicStrings x = new BasicStrings();
         Checks.set(x, 0, "abc");
         checks.due("used: a variable", x.used(), 3);
